@@ -195,6 +195,8 @@ public final class FilesTest {
         q.damage(4, (49 + 18 + 144 + 16) % 256);
         Check.due("one more behind the sum", q.fault(), 5);
         Check.due("reads nothing ahead of END", q.reads(), 0);
+        q.shorten(6);
+        Check.due("a single one behind the sum", q.fault(), 5);
         q.shorten(5);
         Check.due("nothing behind the sum", q.fault(), Stitchpath.NONE);
         q.shorten(4);
