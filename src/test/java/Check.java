@@ -5,8 +5,14 @@ final class Check {
     }
 
     private static int wrong = 0;
+    private static String sentence = "";
 
     private Check() {
+    }
+
+    /** Names the words of the document that the answers from here on are due by. */
+    static void says(String words) {
+        sentence = words;
     }
 
     static void due(String what, long got, long due) {
@@ -53,7 +59,7 @@ final class Check {
 
     static void tell(String text) {
         wrong++;
-        System.out.println(text);
+        System.out.println(sentence.isEmpty() ? text : "\"" + sentence + "\": " + text);
     }
 
     static void end() {
@@ -85,6 +91,31 @@ final class Check {
             }
         }
         return text.toString();
+    }
+
+    /** The places that the needle is moved to for a field, in their order. */
+    static String pointsOf(Stitchpath path, int field) {
+        StringBuilder text = new StringBuilder();
+        int x = 0;
+        int y = 0;
+        for (int i = 0; i < path.commands(); i++) {
+            x += path.ofCommand(i, 1);
+            y += path.ofCommand(i, 2);
+            if (path.ofCommand(i, 3) == field) {
+                text.append(text.length() == 0 ? "" : " ").append(x).append(',').append(y);
+            }
+        }
+        return text.toString();
+    }
+
+    /** A column whose corners are all one place, so that it has one needle point. */
+    static int point(Stitchpath path, int colour, int layer, int x, int y) {
+        return make(path, colour, layer, true, x, y, x, y, x, y, x, y);
+    }
+
+    /** A field of four corners, from its least place to its greatest one. */
+    static int box(Stitchpath path, int leastX, int leastY, int greatestX, int greatestY) {
+        return make(path, 0, 0, false, leastX, leastY, greatestX, leastY, greatestX, greatestY, leastX, greatestY);
     }
 
     /** The fields of all commands, a minus for NONE. */
