@@ -9,6 +9,7 @@ public final class CommandEdgesTest {
         whats();
         fieldOrNone();
         kindsCounted();
+        countedAnew();
         beginsWithoutColour();
         fieldsWithoutPoints();
         byLayers();
@@ -33,7 +34,10 @@ public final class CommandEdgesTest {
         threadRoundsDown();
         threadOfStitchesAlone();
         coveredFraction();
+        coveredAtTheEdges();
         coveredLessThanDensityAway();
+        coveredDensityBehind();
+        coveredOfFourSpans();
         coveredWithoutPull();
         coveredByItself();
         coveredNone();
@@ -145,6 +149,28 @@ public final class CommandEdgesTest {
         for (int kind = 0; kind < 5; kind++) {
             Check.due("kind " + kind, p.count(kind), some[kind]);
         }
+    }
+
+    private static void countedAnew() {
+        Check.says("Returns the sum of its stitches.");
+        Stitchpath p = thereAndBack(1, 1, 2, 1);
+        Check.due("STITCHes", p.count(Stitchpath.STITCH), 3);
+        Check.due("thread", p.thread(0), 30);
+        p.scale(0, 300);
+        for (int i = 0; i < 2; i++) {
+            Check.due("STITCHes when scaled", p.count(Stitchpath.STITCH), 3);
+            Check.due("JUMPs when scaled", p.count(Stitchpath.JUMP), 1);
+            Check.due("thread when scaled", p.thread(0), 90);
+            Check.dueFloat("time when scaled", p.time(), 0.2f + 0.075f + 0.075f + 0.075f);
+        }
+        p.bound(0);
+        Check.due("TRIMs", p.count(Stitchpath.TRIM), 1);
+        p.scale(0, 1);
+        for (int kind = 0; kind < 5; kind++) {
+            Check.due("kind " + kind + " when all is gone", p.count(kind), kind == Stitchpath.END ? 1 : 0);
+        }
+        Check.due("thread when all is gone", p.thread(0), 0);
+        Check.dueFloat("time when all is gone", p.time(), 0.0f);
     }
 
     // ---- the order of fields
@@ -463,6 +489,16 @@ public final class CommandEdgesTest {
             Check.due("thrice -" + each[0] + ", " + each[1],
                     thereAndBack(12, 10, 12 - each[0], 10 + each[1]).thread(0), 3 * each[2]);
         }
+        for (int x = 0; x <= 12; x++) {
+            for (int y = 0; y <= 12; y++) {
+                int thread = thereAndBack(12, 12, 12 - x, 12 + y).thread(0);
+                int root = thread / 3;
+                int square = 100 * (x * x + y * y);
+                Check.due("thrice " + x + ", " + y, thread, 3 * root);
+                Check.due(root + " is not above the root of " + square, root * root <= square ? 1 : 0, 1);
+                Check.due(root + " and 1 is", (root + 1) * (root + 1) > square ? 1 : 0, 1);
+            }
+        }
     }
 
     private static void threadOfStitchesAlone() {
@@ -489,6 +525,37 @@ public final class CommandEdgesTest {
         Check.dueFloat("35 of 36", p.covered(0), 35.0f / 36.0f);
         p.sew(0, 1, 12, 0, 0, false);
         Check.dueFloat("all", p.covered(0), 1.0f);
+    }
+
+    private static void coveredAtTheEdges() {
+        Check.says("Places are whole steps, columns x and rows y, 0 to 31.");
+        int[][] corners = {{0, 0, 8, 8, 0, 8}, {31, 0, 31, 8, 23, 8}, {0, 23, 8, 31, 0, 31}, {31, 23, 31, 31, 23, 31}};
+        for (int[] each : corners) {
+            Stitchpath p = new Stitchpath();
+            Check.make(p, 0, 0, false, each);
+            p.sew(0, 4, 12, 0, 0, false);
+            Check.dueFloat("30 of 36 from " + each[0] + ", " + each[1], p.covered(0), 30.0f / 36.0f);
+        }
+    }
+
+    private static void coveredDensityBehind() {
+        Check.says("It is covered if a STITCH of the field touches one in that column, less than the density away.");
+        Stitchpath p = new Stitchpath();
+        Check.make(p, 0, 0, false, 1, 1, 11, 1, 7, 5, 13, 7, 1, 7);
+        p.sew(0, 4, 12, 0, 0, false);
+        // Cells to 11, 10, 9, 8, 7, 10. From 11, 1 to 7, 5 a STITCH touches 10, 2, which is 4 ahead of 10, 6,
+        // and 9, 3, which is 3 ahead of 9, 6.
+        Check.dueFloat("all but 10, 6", p.covered(0), 54.0f / 55.0f);
+    }
+
+    private static void coveredOfFourSpans() {
+        Check.says("The crossings, by size, make spans, two by two.");
+        Stitchpath p = new Stitchpath();
+        Check.make(p, 0, 0, false, 1, 1, 3, 9, 9, 1, 11, 9, 17, 1, 19, 9, 25, 1, 27, 9);
+        p.sew(0, 8, 12, 0, 0, false);
+        Check.dueText("the row 1", Check.pointsOf(p, 0), "1,1 9,1 17,1 25,1");
+        // The rows have 4, 10, 15, 16, 19, 16, 15, 10 cells; 26 has no stitch, in the last four of them.
+        Check.dueFloat("all but four", p.covered(0), 101.0f / 105.0f);
     }
 
     private static void coveredLessThanDensityAway() {

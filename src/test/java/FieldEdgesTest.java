@@ -32,8 +32,10 @@ public final class FieldEdgesTest {
         cornersInOrder();
         crossedFromLesserToGreater();
         crossingsRoundDown();
+        spansTwoByTwo();
         fromTheLeastY();
         belowTheGreatestY();
+        leastAndGreatestAnywhere();
         rowsFromZero();
         widerBeyondPlaces();
         dividedByLength();
@@ -536,6 +538,33 @@ public final class FieldEdgesTest {
         Check.make(r, 0, 0, false, 2, 1, 9, 4, 1, 4, 1, 1);
         r.sew(0, 1, 12, 0, 0, false);
         Check.dueText("an edge to a greater x", Check.pointsOf(r, 0), "1,1 2,1 4,2 1,2 1,3 6,3");
+    }
+
+    private static void spansTwoByTwo() {
+        Check.says("The crossings, by size, make spans, two by two.");
+        Stitchpath p = new Stitchpath();
+        Check.make(p, 0, 0, false, 1, 1, 3, 9, 9, 1, 11, 9, 17, 1, 19, 9, 25, 1, 27, 9);
+        p.sew(0, 4, 12, 0, 0, false);
+        // The edges cross the row 5 at 2, 6, 10, 14, 18, 22, 26, and the last one at 14 again.
+        Check.dueText("four spans there, and four back", Check.pointsOf(p, 0),
+                "1,1 9,1 17,1 25,1 26,5 24,5 22,5 18,5 14,5 12,5 10,5 6,5 2,5");
+    }
+
+    private static void leastAndGreatestAnywhere() {
+        Check.says("The rows are those from the least y of the corners on, each the density further,"
+                + " below the greatest y; they are numbered from 0.");
+        int[] xs = {5, 9, 5, 1};
+        int[] ys = {1, 5, 9, 5};
+        for (int first = 0; first < 4; first++) {
+            Stitchpath p = new Stitchpath();
+            p.field(0, 0, false);
+            for (int i = 0; i < 4; i++) {
+                p.corner(0, xs[(first + i) % 4], ys[(first + i) % 4]);
+            }
+            p.sew(0, 3, 12, 0, 0, false);
+            Check.dueText("the least y is that of the corner " + (4 - first) % 4, Check.pointsOf(p, 0),
+                    "5,1 8,4 2,4 3,7 7,7");
+        }
     }
 
     private static void fromTheLeastY() {

@@ -1,3 +1,5 @@
+import com.sun.management.ThreadMXBean;
+import java.lang.management.ManagementFactory;
 import java.util.function.IntFunction;
 
 /** The largest designs, whose rows must have room for all, and numbers of any size. */
@@ -9,6 +11,7 @@ public final class LimitsTest {
         widestFields();
         toothedFields();
         farNumbers();
+        madeOnceAndUsedAgain();
         Check.end();
     }
 
@@ -73,6 +76,31 @@ public final class LimitsTest {
         fill(other, otherModel, new int[] {0, 31, 0, 31, 0, 31, 0, 31}, new int[] {0, 31, 0, 31, 0, 31, 0, 31});
         compare(other, otherModel);
         Check.due("touched", other.touched(3), otherModel.touched(3));
+    }
+
+    /** All calls of a run live in one room, so that an object makes its rows once. */
+    private static void madeOnceAndUsedAgain() {
+        Stitchpath path = new Stitchpath();
+        fill(path, new Model(), new int[] {0, 31, 31, 0, 31, 0, 31, 0}, new int[] {0, 0, 31, 31, 30, 30, 0, 31});
+        ThreadMXBean threads = (ThreadMXBean) ManagementFactory.getThreadMXBean();
+        long before = allocated(threads);
+        int sum = 0;
+        for (int i = 0; i < 60; i++) {
+            path.sew(i % 8, 1, 1, i % 12, i % 4, true);
+            path.bound(i);
+            sum += path.commands() + path.count(0) + path.write(i % 2) + path.fault() + path.reads();
+            path.start(4, i % 20);
+            sum += path.run(1000) + (int) path.covered(i % 8) + path.touched(i % 8);
+        }
+        long made = allocated(threads) - before;
+        if (made > 100_000 || sum == 0) {
+            Check.tell("480 calls made " + made + " bytes");
+        }
+    }
+
+    /** 0 on a machine that does not count it. */
+    private static long allocated(ThreadMXBean threads) {
+        return threads.isThreadAllocatedMemorySupported() ? threads.getCurrentThreadAllocatedBytes() : 0;
     }
 
     private static void farNumbers() {

@@ -50,6 +50,7 @@ public final class RefusalsTest {
             }
             oneBehindTheOther(kind);
         }
+        documentedFirst();
         Check.end();
     }
 
@@ -278,6 +279,36 @@ public final class RefusalsTest {
     private static void refusedWithWhole() {
         refuse("mend a mended head", STATE, p -> p.mend(0));
         refuse("mend another one", STATE, p -> p.mend(2));
+    }
+
+    private static void documentedFirst() {
+        Check.says("If several exceptions apply, the one that is documented first is thrown.");
+        Stitchpath p = made(5);
+        Check.badArgument("there are 8, and a wrong colour", () -> p.field(-1, 0, false));
+        Check.badArgument("there are 8, and a wrong layer", () -> p.field(0, 4, false));
+        Check.noSuch("no field, and a wrong x", () -> p.corner(8, 32, 0));
+        Check.noSuch("no field, and a wrong y", () -> p.corner(-1, 0, -1));
+        Check.badArgument("it has 8, and a wrong x", () -> p.corner(0, 32, 0));
+        Check.badArgument("it has 8, and a wrong y", () -> p.corner(0, 0, 32));
+        Check.badArgument("a column has 4, and a wrong x", () -> p.corner(1, -1, 0));
+        Check.badArgument("a column has 4, and a wrong y", () -> p.corner(1, 0, -1));
+        Check.noSuch("no field, and a wrong density", () -> p.sew(8, 0, 1, 0, 0, false));
+        Check.noSuch("no field, and a wrong length", () -> p.sew(-1, 1, 13, 0, 0, false));
+        Check.noSuch("no field, and a wrong shift", () -> p.sew(8, 1, 1, 12, 0, false));
+        Check.noSuch("no field, and a wrong pull", () -> p.sew(-1, 1, 1, 0, 4, false));
+        Check.noSuch("no field, and wrong hundredths", () -> p.scale(8, 0));
+        Check.badArgument("wrong hundredths, and a corner beyond", () -> p.scale(2, 401));
+        Check.badArgument("hundredths so wrong that a product comes round", () -> p.scale(2, Integer.MAX_VALUE));
+        Check.noSuch("no command, and a wrong what", () -> p.ofCommand(-1, 4));
+        Check.noSuch("no byte, and a wrong value", () -> p.damage(0, 256));
+        Check.badArgument("no machine, and no command", () -> p.run(0));
+        Check.badArgument("no machine, and too many commands", () -> p.run(1001));
+        p.write(Stitchpath.SHORT);
+        Check.noSuch("no such byte, and a wrong value", () -> p.damage(-1, -1));
+        p.start(1, 0);
+        p.breaks(0);
+        Check.badArgument("it stands, and too many commands", () -> p.run(1001));
+        Check.noSuch("a broken head, but not that one", () -> p.breaks(1));
     }
 
     // ---- what an object answers
