@@ -536,6 +536,11 @@ public final class CommandEdgesTest {
             p.sew(0, 4, 12, 0, 0, false);
             Check.dueFloat("30 of 36 from " + each[0] + ", " + each[1], p.covered(0), 30.0f / 36.0f);
         }
+        Stitchpath q = new Stitchpath();
+        Check.make(q, 0, 0, false, 13, 31, 13, 27, 28, 31);
+        q.sew(0, 2, 3, 0, 0, true);
+        // 21, 30 is two from 21, 28, behind the row 29 that ends at 20, and one from the underlay's 21, 31.
+        Check.dueFloat("covered from the row 31 alone", q.covered(0), 1.0f);
     }
 
     private static void coveredDensityBehind() {
