@@ -866,7 +866,9 @@ public final class Stitchpath {
             int bytesOfOne = bytesOfCommand();
             stitchesRead = 0;
             faultPlace = size;
-            for (int place = 0; place < size && place < bytes.length; place += bytesOfOne) {
+            // A file has fewer commands than bytes; behind its last one the size is what is wrong.
+            for (int i = 0; i < size; i++) {
+                int place = i * bytesOfOne;
                 int wrong = wrongWithin(place);
                 if (wrong != NONE) {
                     faultPlace = wrong;

@@ -22,6 +22,7 @@ public final class FileEdgesTest {
         lengths();
         lengthsWithoutFile();
         kindsAboveFour();
+        oneByteAlone();
         differencesAboveShort();
         differencesAboveLong();
         differencesOfOthers();
@@ -345,6 +346,19 @@ public final class FileEdgesTest {
         Check.due("an early END, its sum, and one behind that", r.fault(), 4);
         r.damage(3, 5);
         Check.due("an early END without its sum", r.fault(), 3);
+    }
+
+    private static void oneByteAlone() {
+        Check.says("The fault of a file is the place of the first byte that cannot stand there");
+        int[][] dues = {{SHORT, 160, 0}, {SHORT, 29, 0}, {SHORT, 3, 0}, {SHORT, 28, 1}, {SHORT, 144, 1},
+            {SHORT, 145, 0}, {LONG, 5, 0}, {LONG, 255, 0}, {LONG, 4, 1}, {LONG, 0, 1}};
+        for (int[] due : dues) {
+            Stitchpath p = jumpTo(3, 0, due[0]);
+            p.shorten(1);
+            p.damage(0, due[1]);
+            Check.due("fault of " + due[1] + " alone in " + due[0], p.fault(), due[2]);
+            Check.due("reads of " + due[1] + " alone in " + due[0], p.reads(), 0);
+        }
     }
 
     private static void differencesAboveShort() {
